@@ -13,12 +13,15 @@ import java.util.Set;
 public final class ModelTest {
     public static void main(String[] args) {
         for (int seed = 0; seed < 150; seed++) {
-            new Run(seed).go();
+            new Run(seed).goDeep();
+        }
+        for (int seed = 1000; seed < 1020; seed++) {
+            new Run(seed).goWide();
         }
         Check.end();
     }
 
-    /** Calls that first build a net of some size and then mostly ask; the seed is the size's. */
+    /** Calls that first build a net and then mostly ask. */
     private static final class Run {
         private final int seed;
         private final Random random;
@@ -30,7 +33,7 @@ public final class ModelTest {
             this.random = new Random(seed);
         }
 
-        void go() {
+        void goDeep() {
             int inputs = random.nextInt(10);
             int gates = 2 + random.nextInt(seed % 3 == 0 ? 120 : 20);
             int cycles = random.nextInt(3) * 8;
@@ -49,8 +52,34 @@ public final class ModelTest {
             for (int i = 0; i < 11; i++, calls++) {
                 both("output", Math.max(0, model.sorts.size() - 1 - random.nextInt(12)), 0, false);
             }
+            layAndAsk(calls);
+        }
+
+        // Ten ors of 16 of 40 ands of 4 inputs each: some 500 multiplexers.
+        void goWide() {
+            for (int i = 0; i < 8; i++) {
+                both("gate", 0, 0, false);
+            }
+            for (int and = 8; and < 48; and++) {
+                both("gate", 2, 0, false);
+                for (int k = 0; k < 4; k++) {
+                    both("feed", and, random.nextInt(8), random.nextBoolean());
+                }
+            }
+            for (int or = 48; or < 58; or++) {
+                both("gate", 3, 0, false);
+                for (int k = 0; k < 16; k++) {
+                    boolean closesCycle = random.nextInt(100) < seed % 2;
+                    both("feed", or, closesCycle ? or : 8 + random.nextInt(40), false);
+                }
+                both("output", or, 0, false);
+            }
+            layAndAsk(388);
+        }
+
+        private void layAndAsk(int calls) {
             both("lay", 0, 0, false);
-            for (calls++; calls < 512; calls++) {
+            for (int made = calls + 1; made < 512; made++) {
                 any();
             }
         }

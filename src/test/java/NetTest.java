@@ -195,6 +195,8 @@ public final class NetTest {
         Check.due("input 0 anew", 1, x.gate(0));
         Check.due("its value", 1, x.value(1, 128));
         Check.due("feeds count anew", 1, x.feed(0, 1, true));
+        Check.due("the gate that had feeds, anew", 2, x.gate(2));
+        Check.due("its feeds count anew", 1, x.feed(2, 1, false));
         Check.due("outputs count anew", 0, x.output(0));
     }
 
