@@ -21,32 +21,10 @@ public final class LayoutTest {
         Check.end();
     }
 
-    /** Gates 0 .. inputs - 1 are inputs. */
-    private static CycleCutter withInputs(int inputs) {
-        CycleCutter x = new CycleCutter();
-        for (int i = 0; i < inputs; i++) {
-            x.gate(0);
-        }
-        return x;
-    }
-
-    private static int gateOf(CycleCutter x, int sort, int a, boolean p, int b, boolean q) {
-        int gate = x.gate(sort);
-        x.feed(gate, a, p);
-        x.feed(gate, b, q);
-        return gate;
-    }
-
-    private static int xorOf(CycleCutter x, int a, int b) {
-        int left = gateOf(x, 2, a, false, b, true);
-        int right = gateOf(x, 2, a, true, b, false);
-        return gateOf(x, 3, left, false, right, false);
-    }
-
     private static void layCountsAllOnce() {
-        CycleCutter x = withInputs(2);
-        int and = gateOf(x, 2, 0, false, 1, false);
-        int nand = gateOf(x, 3, 0, true, 1, true);
+        CycleCutter x = Nets.withInputs(2);
+        int and = Nets.gateOf(x, 2, 0, false, 1, false);
+        int nand = Nets.gateOf(x, 3, 0, true, 1, true);
         x.output(and);
         Check.due("an and: two functions of two", 4, x.lay());
         x.output(nand);
@@ -68,8 +46,8 @@ public final class LayoutTest {
     }
 
     private static void layTakesThePlaceOfWhatWas() {
-        CycleCutter x = withInputs(2);
-        int xor = xorOf(x, 0, 1);
+        CycleCutter x = Nets.withInputs(2);
+        int xor = Nets.xorOf(x, 0, 1);
         x.output(xor);
         Check.due("lay() of xor", 4, x.lay());
         Check.due("lay() again", 4, x.lay());
@@ -84,10 +62,10 @@ public final class LayoutTest {
     }
 
     private static void constantsHaveNoMultiplexers() {
-        CycleCutter x = withInputs(1);
+        CycleCutter x = Nets.withInputs(1);
         x.output(x.gate(2));
         x.output(x.gate(3));
-        x.output(gateOf(x, 2, 0, false, 0, true));
+        x.output(Nets.gateOf(x, 2, 0, false, 0, true));
         Check.due("lay() of constants", 0, x.lay());
         Check.due("run of 1", 1, x.run(0, 255));
         Check.due("run of 0", 0, x.run(1, 0));
@@ -102,7 +80,7 @@ public final class LayoutTest {
     }
 
     private static void unknownHasNoMultiplexers() {
-        CycleCutter x = withInputs(1);
+        CycleCutter x = Nets.withInputs(1);
         int gate = x.gate(2);
         x.feed(gate, gate, false);
         x.output(gate);
@@ -115,7 +93,7 @@ public final class LayoutTest {
     }
 
     private static void theLayoutStaysAsTheNetChanges() {
-        CycleCutter x = withInputs(1);
+        CycleCutter x = Nets.withInputs(1);
         int gate = x.gate(3);
         x.feed(gate, 0, false);
         x.output(gate);
@@ -138,8 +116,8 @@ public final class LayoutTest {
     }
 
     private static void inputsThatAreNotThereArePassedOver() {
-        CycleCutter x = withInputs(2);
-        x.output(gateOf(x, 2, 0, false, 1, false));
+        CycleCutter x = Nets.withInputs(2);
+        x.output(Nets.gateOf(x, 2, 0, false, 1, false));
         x.lay();
         for (int choice = 0; choice < 256; choice++) {
             Check.due("run on " + choice, choice >= 192 ? 1 : 0, x.run(0, choice));
@@ -148,8 +126,8 @@ public final class LayoutTest {
     }
 
     private static void multiplexersStandAtTheFirstInput() {
-        CycleCutter x = withInputs(3);
-        x.output(gateOf(x, 2, 2, false, 1, true));
+        CycleCutter x = Nets.withInputs(3);
+        x.output(Nets.gateOf(x, 2, 2, false, 1, true));
         Check.due("lay()", 4, x.lay());
         Check.due("at(0)", 0, x.at(0));
         Check.due("at(1)", 2, x.at(1));
@@ -161,8 +139,8 @@ public final class LayoutTest {
     }
 
     private static void multiplexersSkipInputs() {
-        CycleCutter x = withInputs(8);
-        x.output(xorOf(x, 0, 7));
+        CycleCutter x = Nets.withInputs(8);
+        x.output(Nets.xorOf(x, 0, 7));
         x.output(7);
         Check.due("lay()", 4, x.lay());
         Check.due("at(0)", 2, x.at(0));
@@ -179,7 +157,7 @@ public final class LayoutTest {
     }
 
     private static void runAndWayRefuseWrongArguments() {
-        CycleCutter x = withInputs(1);
+        CycleCutter x = Nets.withInputs(1);
         x.output(0);
         Check.dueThrow("run before lay", OUT, () -> x.run(0, 0));
         Check.dueThrow("way before lay", OUT, () -> x.way(0, 0));
@@ -197,7 +175,7 @@ public final class LayoutTest {
     }
 
     private static void sizeAndKnownRefuseWrongOutputs() {
-        CycleCutter x = withInputs(1);
+        CycleCutter x = Nets.withInputs(1);
         x.output(0);
         Check.dueThrow("size before lay", OUT, () -> x.size(0, false));
         Check.dueThrow("known before lay", OUT, () -> x.known(0));
@@ -211,7 +189,7 @@ public final class LayoutTest {
     }
 
     private static void outputsAfterLayAreNotLaidOut() {
-        CycleCutter x = withInputs(2);
+        CycleCutter x = Nets.withInputs(2);
         x.output(0);
         x.lay();
         Check.due("output(1)", 1, x.output(1));
@@ -227,7 +205,7 @@ public final class LayoutTest {
     }
 
     private static void atOfInputsThatAreNotThere() {
-        CycleCutter x = withInputs(1);
+        CycleCutter x = Nets.withInputs(1);
         x.output(0);
         x.lay();
         Check.due("at(0)", 2, x.at(0));
@@ -238,8 +216,8 @@ public final class LayoutTest {
     }
 
     private static void doubtLooksUpwards() {
-        CycleCutter x = withInputs(8);
-        int gate = gateOf(x, 2, 0, false, 7, false);
+        CycleCutter x = Nets.withInputs(8);
+        int gate = Nets.gateOf(x, 2, 0, false, 7, false);
         x.feed(gate, gate, false);
         x.output(gate);
         x.lay();
@@ -255,9 +233,9 @@ public final class LayoutTest {
     }
 
     private static void doubtLooksAtAllOutputs() {
-        CycleCutter x = withInputs(8);
+        CycleCutter x = Nets.withInputs(8);
         for (int k = 0; k < 8; k++) {
-            int gate = gateOf(x, 2, k, false, (k + 1) % 8, false);
+            int gate = Nets.gateOf(x, 2, k, false, (k + 1) % 8, false);
             x.feed(gate, gate, true);
             x.output(gate);
         }
@@ -272,15 +250,17 @@ public final class LayoutTest {
     }
 
     private static void eightInputsOnAllChoices() {
-        CycleCutter x = withInputs(8);
+        CycleCutter x = Nets.withInputs(8);
         int parity = 0;
         for (int k = 1; k < 8; k++) {
-            parity = xorOf(x, parity, k);
+            parity = Nets.xorOf(x, parity, k);
         }
         x.output(parity);
         Check.due("lay() of parity", 16, x.lay());
         for (int choice = 0; choice < 256; choice++) {
             Check.due("run on " + choice, Integer.bitCount(choice) % 2, x.run(0, choice));
+        }
+        for (int choice = 0; choice < 256; choice += 3) {
             Check.due("way on " + choice, 16, x.way(0, choice));
         }
         for (int k = 0; k < 8; k++) {

@@ -80,7 +80,7 @@ public final class NetTest {
         Check.due("inputs", 0, x.count(2));
         Check.due("feed of the last gate", 1, x.feed(119, 118, false));
         Check.due("output of the last gate", 0, x.output(119));
-        Check.due("value of the last gate", 1, x.value(118, 0));
+        Check.due("value of the last gate", 1, x.value(119, 0));
     }
 
     private static void gateStopsAt8Inputs() {
@@ -205,7 +205,7 @@ public final class NetTest {
         x.gate(2);
         for (int k = 0; k < 8; k++) {
             int gate = x.gate(0);
-            for (int choice = 0; choice < 256; choice += 3) {
+            for (int choice = 0; choice < 256; choice += 5) {
                 String call = "value of input " + k + " on " + choice;
                 Check.due(call, (choice >> (7 - k)) & 1, x.value(gate, choice));
             }
