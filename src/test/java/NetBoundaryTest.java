@@ -1,5 +1,5 @@
 /**
- * The boundary cases of promises 1 to 5, 13 and 14 and of the terms that they use: above each test
+ * The boundary cases of promises 1 to 5 and 13 and of the terms that they use: above each test
  * stands the sentence of the document that it is about, and it looks at both sides of the boundary.
  */
 public final class NetBoundaryTest {

@@ -16,7 +16,9 @@ public final class ValueBoundaryTest {
         orIs0OnlyIfAllAre();
         whatIsTakenNegated();
         settlesThroughAllGates();
+        settlesThrough120Gates();
         settlesThroughAllGatesOfACycle();
+        valueAsTheNetIsNow();
         aCycleThatNothingDecidesStaysUnknown();
         the512thCallIsAnswered();
         Check.end();
@@ -222,6 +224,20 @@ public final class ValueBoundaryTest {
         Check.due("known", 256, x.known(0));
     }
 
+    // The same with one gate more in the row, as the last one is known without any input
+    private static void settlesThrough120Gates() {
+        for (int last : new int[] {Nets.AND, Nets.OR}) {
+            CycleCutter x = new CycleCutter();
+            Nets.addGates(x, Nets.AND, 119);
+            x.gate(last);
+            for (int gate = 0; gate < 119; gate++) {
+                x.feed(gate, gate + 1, false);
+            }
+            Check.due("the 120th from " + last, last == Nets.AND ? 1 : 0, x.value(0, 0));
+            Check.due("the 120th from " + last, last == Nets.AND ? 1 : 0, x.value(0, 255));
+        }
+    }
+
     // The same round a cycle of 119 gates, which the input cuts on one side of its boundary
     private static void settlesThroughAllGatesOfACycle() {
         CycleCutter x = new CycleCutter();
@@ -240,6 +256,23 @@ public final class ValueBoundaryTest {
         Check.due("lay(): LOW alone", 1, x.lay());
         Check.due("known", 128, x.known(0));
         Check.due("doubt(0)", 128, x.doubt(0));
+    }
+
+    // Promise 13: "as the net is now": what was known before a feed came is found anew
+    private static void valueAsTheNetIsNow() {
+        CycleCutter x = new CycleCutter();
+        int and = x.gate(Nets.AND);
+        int or = x.gate(Nets.OR);
+        Check.due("and without feeds", 1, x.value(and, 0));
+        Check.due("or without feeds", 0, x.value(or, 0));
+        x.feed(and, and, false);
+        x.feed(or, or, false);
+        Check.due("and by itself", 2, x.value(and, 0));
+        Check.due("or by itself", 2, x.value(or, 0));
+        x.feed(and, x.gate(Nets.OR), false);
+        x.feed(or, x.gate(Nets.AND), false);
+        Check.due("and by itself and 0", 0, x.value(and, 0));
+        Check.due("or by itself and 1", 1, x.value(or, 0));
     }
 
     // "all begin as unknown"
